@@ -412,10 +412,12 @@ public final class SilkRise {
             return NO_SUCH_PULL;
         }
         int which = pullsKnownBy(k);
-        if (Integer.bitCount(which) != 1) {
-            return NO_PULL;
+        for (int pull = -MOST_PULL; pull <= MOST_PULL; pull++) {
+            if (which == bitOf(pull)) {
+                return pull;
+            }
         }
-        return Integer.numberOfTrailingZeros(which) - MOST_PULL;
+        return NO_PULL;
     }
 
     public boolean hold(int slot) {
@@ -506,11 +508,15 @@ public final class SilkRise {
         air.pass(trial, n, seed);
     }
 
+    private static int bitOf(int pull) {
+        return 1 << (pull + MOST_PULL);
+    }
+
     private int pullsKnownBy(int k) {
         int which = 0;
         for (int pull = -MOST_PULL; pull <= MOST_PULL; pull++) {
             if (fitsKnown(k, pull)) {
-                which |= 1 << (pull + MOST_PULL);
+                which |= bitOf(pull);
             }
         }
         return which;
@@ -1384,7 +1390,8 @@ public final class SilkRise {
             int x = state.loads.at(load, X);
             int lift = sky.lift(state.silks.at(silk, SIZE), state.loads.at(load, WEIGHT), high, x);
             int wind = sky.wind(high, x);
-            int aside = state.silks.at(silk, PULL) + wind + (gust ? Integer.signum(wind) : 0);
+            int more = gust && wind != 0 ? (wind > 0 ? 1 : -1) : 0;
+            int aside = state.silks.at(silk, PULL) + wind + more;
             state.loads.put(load, HIGH, high + lift);
             state.loads.put(load, X, keptWithin(x + aside, 0, LAST_X));
         }

@@ -112,6 +112,11 @@ public final class DoingTest {
         Due.due("silk(0, 2)", x.silk(0, 2), 2);
         x.hours(1);
         Due.due("LANDED from 0", x.load(0, 3), 0);
+        x.undo();
+        x.undo();
+        x.tie(0, 0);
+        Due.due("hours() beyond the landing", x.hours(50), 54);
+        Due.due("at the foot", x.count(4), 1);
         SilkRise flat = Due.with("load a 1 5 5; silk s 5 -3;");
         flat.tie(0, 0);
         flat.hours(1);

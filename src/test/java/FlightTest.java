@@ -43,6 +43,10 @@ public final class FlightTest {
         x.hours(23);
         flight(x, 0, 0, 0, 22, 1, 0, 5);
         flight(x, 0, 0, 21, 26, 1, 0, 5);
+        x = Due.with("load a 5 2 10; silk s 7 -3; rim 10; hook h 0 0 1;");
+        flight(x, 0, 0, 0, 2, 1, 0, 0);
+        x = Due.with("load a 15 2 10; silk s 7 3; rim 10; hook h 19 0 1;");
+        flight(x, 0, 0, 0, 2, 1, 0, 19);
         x = Due.with("load a 5 2 10; silk s 7 0; rim 10; hook h 9 5 1; hook g 7 2 1; hook f 3 2 1;");
         flight(x, 0, 0, 0, 2, 1, 1, 5);
         x.move(1, 8);
@@ -130,6 +134,14 @@ public final class FlightTest {
         x.tie(0, 0);
         Due.due("LOAD in the air", x.patches(0, 1, 0), -1000);
         Due.due("SILK in the air", x.patches(1, 0, 0), -1000);
+        x = Due.with("load a 9 1 10; silk s 6 0; hook h 9 0 1; wind = if hour < 1 then 2 else 0; rim 5;");
+        Due.due("begun now", x.patches(0, 0, 0), -2);
+        x.hours(1);
+        Due.due("begun now", x.patches(0, 0, 0), 0);
+        // All seven are looked at, from either end.
+        x = Due.with("load a 9 1 10; silk s 6 3; silk t 6 -3; hook h 6 0 1; hook g 12 0 1; rim 5;");
+        Due.due("from 3 to -3", x.patches(0, 0, 0), -3);
+        Due.due("from -3 to 3", x.patches(0, 1, 1), 3);
         // -1 and 1 bring it there, with 0 the other one hooks it: the lesser one of two.
         x = Due.with("load a 9 1 10; silk s 6 0; hook h 9 1 1; hook g 9 2 1; rim 10;");
         Due.due("the lesser PULL", x.patches(0, 0, 1), -1);

@@ -49,6 +49,10 @@ public final class PlansTest {
     private static void fillAlike() {
         String two = "load a 5 1 9; load b 5 1 9; silk s 9 0; silk t 9 0; hook h 5 0 1;";
         fills("the first SILK for the first LOAD", Due.with(two), 16, 0, 1);
+        SilkRise x = Due.with("load a 5 1 9; silk s 9 0; hook h 5 0 1; rim 8; wind = if hour < 1 then 0 else 1;");
+        fills("begun now", x, 8, 0);
+        x.hours(1);
+        fills("begun now", x, 0, -2);
         fills("one SILK: the first LOAD has it", Due.with("load a 5 1 9; load b 5 1 9; silk s 9 0; hook h 5 0 1;"), 8, 0, -2);
         fills("none last", Due.with("load a 5 1 1; load b 5 1 1; load c 5 1 1; silk s 9 0; silk t 9 0; hook h 5 0 1;"), 0, 0, 1, -2);
     }
@@ -66,6 +70,20 @@ public final class PlansTest {
 
     private static void fewest() {
         Due.due("nothing", new SilkRise().fewest(), 0);
+        String apart = "load a 1 1 9; load b 5 1 9; load c 9 1 9; load d 13 1 9; load e 17 1 9; load f 19 1 1; silk s 9 0;"
+                + "hook ha 1 0 1; hook hb 5 0 1; hook hc 9 0 1; hook hd 13 0 1; hook he 17 0 1;";
+        SilkRise all = Due.with(apart);
+        Due.due("all five", all.fewest(), 31);
+        all.move(4, 19);
+        Due.due("all five, another LOAD", all.fewest(), 31);
+        all.move(4, 18);
+        Due.due("four", all.fewest(), 15);
+        SilkRise now = Due.with("load a 5 1 9; silk s 9 0; hook h 5 0 1; hook g 6 0 1; wind = if hour < 1 then 0 else 1;");
+        Due.due("begun now, in two hours", now.fewest(), 2);
+        now = Due.with("load a 5 1 9; silk s 9 0; hook h 5 0 1; hook g 6 0 1; wind = if hour < 1 then 0 else 1; rim 8;");
+        Due.due("begun now", now.fewest(), 1);
+        now.hours(1);
+        Due.due("begun now", now.fewest(), 2);
         SilkRise x = Due.with("load a 5 1 9; load b 9 1 9; load c 13 1 9; silk s 9 0; hook h 5 0 1; hook g 7 2 1; hook f 9 0 1; hook e 11 2 1;");
         Due.due("two of four", x.fewest(), 1 | 8);
         x.move(3, 13);
@@ -121,6 +139,9 @@ public final class PlansTest {
         x = Due.with("load a 5 1 9; silk s 9 0; hook h 5 0 1; rim 8; pays = if day < 1 then 0 else 50;");
         Due.due("the day's first hour", x.waits(0, 0, 0), 24);
         Due.due("the day's first hour", x.waits(0, 0, 1), 25);
+        x = Due.with("load a 5 1 9; silk s 9 0; hook h 5 0 1; rim 8; pays = if hour < 1 then 5 else 9;");
+        Due.due("w 1", x.waits(0, 0, 0), 1);
+        Due.due("w 1", x.waits(0, 0, 1), 7);
         x = Due.with("load a 5 1 9; silk s 9 0; hook h 5 0 1; rim 8; pays = hour; ties = 0;");
         Due.due("of alike ones the fewest", x.waits(0, 0, 0), 0);
         Due.due("of alike ones the fewest", x.waits(0, 0, 1), 0);

@@ -140,6 +140,12 @@ public final class TextTest {
         Due.fault(ifs + "1;" + ifs + "1;", 0, -1);
         Due.fault(ifs + "if 1", 2, ifs.length());
         Due.fault("lift=" + times("(", 6) + "1" + times(")", 6) + ";", 0, -1);
+        String six = times("(", 6) + "1" + times(")", 6);
+        Due.fault("lift=if " + six + "<" + six + " then " + six + " else " + six + "*" + six + "-" + six + ";", 0, -1);
+        Due.fault("lift=if (" + six + "<1 then 1 else 1;", 2, 14);
+        Due.fault("lift=if 1<(" + six + " then 1 else 1;", 2, 16);
+        Due.fault("lift=if 1<2 then (" + six + " else 1;", 2, 23);
+        Due.fault("lift=if 1<2 then 1 else (" + six + ";", 2, 30);
         Due.fault("lift=" + times("(", 7) + "1" + times(")", 7) + ";", 2, 11);
         Due.fault("lift=" + times("(1)+", 30) + "1;", 0, -1);
         Due.fault("lift=(((((1)+((1)))*(1))))-((((((1))))));", 0, -1);
@@ -163,6 +169,11 @@ public final class TextTest {
         Due.fault("silk b 1 1;hook b 1 1 1;", 3, 16);
         Due.fault("hook b 1 1 1;load bb 1 1 1;", 0, -1);
         Due.fault("load a 1 1 1;load a 1 1 1", 1, 25);
+        String most = named("load", " 1 1 1", 7) + named("silk x", " 1 1", 5).replace("x ", "x") + named("hook y", " 1 1 1", 4).replace("y ", "y");
+        Due.fault(most + "hook z 1 1 1;", 0, -1);
+        Due.fault(most + "hook yd 1 1 1;", 3, most.length() + 5);
+        Due.fault(most + "hook ya 1 1 1;", 3, most.length() + 5);
+        Due.fault(most + "hook a 1 1 1;", 3, most.length() + 5);
         Due.fault("load a 20 1 1;load a 1 1 1;", 5, 7);
         Due.fault("load a 1 1 1;load a 20 1 1;", 3, 18);
         Due.fault("load a 20 1 1; load", 1, 19);

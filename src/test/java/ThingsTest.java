@@ -9,7 +9,10 @@ public final class ThingsTest {
         noSuchOnes();
         laws();
         varsOfLaws();
+        eachVarOfEachLaw();
+        longLaw();
         gusts();
+        gustsNotTold();
         Due.end("ThingsTest");
     }
 
@@ -186,6 +189,50 @@ public final class ThingsTest {
         Due.due("WIND is held", held.tells(0, 0, 1), 3);
         Due.due("TIES is held", held.tells(0, 0, 2), 0);
         Due.due("PAYS is held", held.tells(0, 0, 3), 99);
+    }
+
+    private static void eachVarOfEachLaw() {
+        String[] laws = {"lift", "wind", "ties", "pays"};
+        String[] vars = {"hour", "day", "size", "weight", "high", "across", "price", "up", "stored"};
+        // At hour 54, two in the air, one STORED: of a LOAD at 11, WEIGHT 3, PRICE 7, by a SILK of SIZE 5, 0 high.
+        int[][] due = {{6, 2, 5, 3, 0, 11, 0, 2, 1}, {6, 2, 0, 0, 0, 11, 0, 2, 1}, {6, 2, 5, 3, 0, 0, 0, 2, 1}, {6, 2, 0, 3, 0, 0, 7, 2, 1}};
+        for (int law = 0; law < 4; law++) {
+            for (int var = 0; var < 9; var++) {
+                for (int more = 0; more < 2; more++) {
+                    String told = (law == 0 ? "lift = if hour < 1 then 9 else " : "lift = 9; " + laws[law] + " = ") + "if " + vars[var] + " < "
+                            + (due[law][var] + more) + " then 2 else 1;";
+                    SilkRise x = Due.with("load a 5 1 1; load b 5 1 1; load c 5 1 1; load d 11 3 7; silk s 9 0; silk t 9 0; silk u 5 0;"
+                            + "hook h 5 5 1; rim 9;" + told);
+                    x.tie(0, 0);
+                    x.hours(54);
+                    x.tie(1, 0);
+                    x.tie(2, 1);
+                    Due.due("up and stored", x.count(5) * 10 + x.count(6), 61);
+                    Due.due(told, x.tells(3, 2, law), 1 + more);
+                }
+            }
+        }
+    }
+
+    private static void longLaw() {
+        SilkRise x = Due.with("load a 1 1 1; silk s 1 1; ties = " + "0+".repeat(192) + "7;");
+        Due.due("a LAW of nearly 400 TOKENS", x.tells(0, 0, 2), 7);
+        x = Due.with("load a 1 1 1; silk s 1 1;" + "ties=1;".repeat(90) + "pays=1+1*2-3+(4);ties=6;");
+        Due.due("the last of many", x.tells(0, 0, 2), 6);
+        Due.due("behind many", x.tells(0, 0, 3), 4);
+    }
+
+    private static void gustsNotTold() {
+        SilkRise x = Due.with("gusts 100; seed 5;");
+        Due.due("read()", Due.read(x, "gusts 50;"), 0);
+        SilkRise none = Due.with("gusts 100; seed 9;");
+        Due.due("read()", Due.read(none, "rim 7;"), 0);
+        for (int hour = 0; hour < 200; hour++) {
+            Due.due("a SEED not told, hour " + hour, x.count(14), lot(0, 4 * hour) < 50 ? 1 : 0);
+            Due.due("GUSTS not told, hour " + hour, none.count(14), 0);
+            x.hours(1);
+            none.hours(1);
+        }
     }
 
     /** LOT 100 of a SEED and a which, written out as the document tells it. */
