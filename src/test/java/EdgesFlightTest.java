@@ -8,6 +8,7 @@ public final class EdgesFlightTest {
         notIn48();
         notIn48BehindAnother();
         howItIsOver();
+        asEachHourBegan();
         begunBehindW();
         alone();
         withoutGusts();
@@ -117,6 +118,26 @@ public final class EdgesFlightTest {
         x.move(1, 8);
         flight("both MOVED away", x, 0, 1, 2, -2, 5);
         flight("a HOOK MOVED, its REACH is 0", Due.with("load a 6 1 1; silk s 9 0; hook h 6 0 1; rim 8;"), 0, 1, 1, 0, 6);
+    }
+
+    private static void asEachHourBegan() {
+        Due.says("16: all by how all was as the hour began");
+        // It is 4, 8, 14 and 23 high, at 5, 7, 10 and 13.
+        SilkRise x = Due.with("load a 5 1 1; silk s 9 0; hook h 9 0 1; rim 15; wind = high / 2; lift = across - up;");
+        flight("by high and across", x, 0, 4, 2, -2, 13);
+        x = Due.with("load a 5 1 1; silk s 9 0; hook h 7 0 1; rim 8; wind = high / 2; lift = 4;");
+        flight("to the RIM in its second hour", x, 0, 2, 1, 0, 7);
+        x = Due.with("load a 5 1 1; silk s 9 1; hook h 7 0 1; rim 12; lift = across;");
+        flight("LIFT 5, 6 and 7", x, 0, 3, 2, -2, 8);
+        // X stays 0 .. 19 by PULL and WIND together.
+        x = Due.with("load a 0 1 1; silk s 9 3; hook h 0 0 1; rim 8; wind = 0 - 3;");
+        flight("3 and -3", x, 0, 1, 1, 0, 0);
+        x = Due.with("load a 19 1 1; silk s 9 -3; hook h 19 0 1; rim 8; wind = 3;");
+        flight("-3 and 3", x, 0, 1, 1, 0, 19);
+        x = Due.with("load a 1 1 1; silk s 9 -3; hook h 0 0 1; rim 8; wind = 0 - 3;");
+        flight("-6", x, 0, 1, 1, 0, 0);
+        x = Due.with("load a 18 1 1; silk s 9 3; hook h 19 0 1; rim 8; wind = 3;");
+        flight("6", x, 0, 1, 1, 0, 19);
     }
 
     private static void begunBehindW() {

@@ -4,6 +4,8 @@ public final class EdgesHandTest {
     private static final String TEXT = "load a 5 2 10; load b 8 6 30; silk s 7 1; silk t 8 -1; hook h 7 1 1; hook g 1 1 1; ties = 3 + up; rim 10;";
 
     public static void main(String[] args) {
+        notInTheAir();
+        noneHookedIt();
         noSuchThings();
         noSuchWhats();
         tellsOfAny();
@@ -24,6 +26,66 @@ public final class EdgesHandTest {
         undoneTheLastForty();
         undoneNotTheRest();
         Due.end("EdgesHandTest");
+    }
+
+    private static void ofALoad(String when, SilkRise x, int load, int... due) {
+        for (int what = 0; what < 7; what++) {
+            Due.due(when + ": load(" + load + ", " + what + ")", x.load(load, what), due[what]);
+        }
+    }
+
+    private static void notInTheAir() {
+        Due.says("6: 4 how high (0: not in the air), 5 its SILK (-2: not in the air); 7: 1 its LOAD (-2: at the foot)");
+        SilkRise x = Due.with("load a 5 1 10; load b 5 2 20; load c 9 3 30; silk s 5 0; silk t 5 0; silk u 5 0; hook h 5 0 1; rim 8;"
+                + "lift = if weight < 3 then 4 else if hour < 1 then 2 else 0 - 2;");
+        ofALoad("at the foot", x, 0, 5, 1, 10, 0, 0, -2, -2);
+        ofALoad("at the foot", x, 1, 5, 2, 20, 0, 0, -2, -2);
+        ofALoad("at the foot", x, 2, 9, 3, 30, 0, 0, -2, -2);
+        for (int i = 0; i < 3; i++) {
+            Due.due("at the foot", x.silk(i, 1), -2);
+            Due.due("never let go", x.silk(i, 2), 0);
+        }
+        for (int i = 0; i < 3; i++) {
+            x.tie(i, 2 - i);
+            Due.due("in the air", x.silk(2 - i, 1), i);
+            Due.due("let go once", x.silk(2 - i, 2), 1);
+        }
+        ofALoad("let go", x, 0, 5, 1, 10, 1, 0, 2, -2);
+        ofALoad("let go", x, 2, 9, 3, 30, 1, 0, 0, -2);
+        x.hours(1);
+        ofALoad("in the air", x, 0, 5, 1, 10, 1, 4, 2, -2);
+        ofALoad("in the air", x, 1, 5, 2, 20, 1, 4, 1, -2);
+        ofALoad("in the air", x, 2, 9, 3, 30, 1, 2, 0, -2);
+        x.hours(1);
+        ofALoad("STORED", x, 0, 5, 1, 10, 2, 0, -2, 0);
+        ofALoad("MISSED", x, 1, 5, 2, 20, 3, 0, -2, -2);
+        ofALoad("LANDED", x, 2, 9, 3, 30, 0, 0, -2, -2);
+        for (int i = 0; i < 3; i++) {
+            Due.due("at the foot again", x.silk(i, 1), -2);
+            Due.due("let go once", x.silk(i, 2), 1);
+        }
+    }
+
+    private static void noneHookedIt() {
+        Due.says("6: 6 the HOOK that hooked it (-2: none); 9: 3 LOADS that it hooked so far (bits)");
+        SilkRise x = Due.with("load a 1 1 1; load b 5 1 1; load c 9 1 1; load d 1 1 1; load e 13 1 1; silk s 9 0; hook h 1 0 1; hook g 5 0 1; hook f 9 0 1; rim 8;");
+        int[] due = {0, 1, 2, 0, -2};
+        for (int load = 0; load < 5; load++) {
+            Due.due("not yet", x.load(load, 6), -2);
+            x.tie(load, 0);
+            Due.due("in the air", x.load(load, 6), -2);
+            x.hours(1);
+            Due.due("the HOOK", x.load(load, 6), due[load]);
+        }
+        int[] bits = {9, 2, 4};
+        for (int hook = 0; hook < 3; hook++) {
+            Due.due("hook(" + hook + ", 3)", x.hook(hook, 3), bits[hook]);
+        }
+        x.undo();
+        x.undo();
+        x.undo();
+        Due.due("undone, hook(0, 3)", x.hook(0, 3), 1);
+        Due.due("undone, load(3, 6)", x.load(3, 6), -2);
     }
 
     private static void noSuchThings() {

@@ -88,6 +88,18 @@ public final class EdgesHoursTest {
         x.hours(1);
         is("-3 and 3", x, 0, 1, 0, 1);
         is("3 and -3", x, 1, 1, 19, 1);
+        x = Due.with("load a 0 1 1; load b 19 1 1; silk s 2 3; silk t 2 -3; rim 99; wind = if across < 10 then 0 - 3 else 3;");
+        x.tie(0, 0);
+        x.tie(1, 1);
+        x.hours(1);
+        is("3 and -3", x, 0, 1, 0, 1);
+        is("-3 and 3", x, 1, 1, 19, 1);
+        x = Due.with("load a 0 1 1; load b 19 1 1; silk s 2 2; silk t 2 -2; rim 99; gusts 100; wind = if across < 10 then 0 - 2 else 2;");
+        x.tie(0, 0);
+        x.tie(1, 1);
+        x.hours(1);
+        is("2 and -2 and a GUST", x, 0, 1, 0, 1);
+        is("-2 and 2 and a GUST", x, 1, 1, 19, 1);
     }
 
     private static void allAsTheHourBegan() {

@@ -37,12 +37,12 @@ public final class EdgesLawsTest {
             Due.due("day at " + hour, x.tells(0, 0, 3), hour / 24);
             x.hours(1);
         }
-        x = Due.with("load a 1 1 1; silk s 1 1; ties = hour; pays = day - 1500;");
-        for (int i = 0; i < 501; i++) {
+        x = Due.with("load a 1 1 1; silk s 1 1; ties = hour; pays = day - 1437;");
+        for (int i = 0; i < 480; i++) {
             x.hours(72);
         }
         x.hours(23);
-        Due.due("the hour", x.count(3), 501 * 72 + 23);
+        Due.due("the hour", x.count(3), 480 * 72 + 23);
         Due.due("hour of the day", x.tells(0, 0, 2), 23);
         Due.due("day", x.tells(0, 0, 3), 3);
         x.hours(1);

@@ -403,6 +403,19 @@ public final class EdgesPlansTest {
             x.hours(1);
             Due.due("X in hour " + x.count(3), x.load(0, 0), at[n]);
         }
+        // By a GUST it is hooked by the one at 7, else by the one at 6.
+        for (int seed = 0; seed < 30; seed++) {
+            x = Due.with("load a 5 1 7; load b 5 1 30; silk s 9 0; silk t 9 1; hook h 6 0 1; hook g 7 0 1; rim 8; wind = 1; gusts 50; seed " + seed + ";");
+            boolean gust = ThingsTest.lot(seed, 0) < 50;
+            x.tie(0, 0);
+            x.tie(1, 1);
+            // a to 6 or 7, b to 7 or 8.
+            Due.due("earns(1) by SEED " + seed, x.earns(1), gust ? 7 : 37);
+            Due.due("then(1, 1, 0) by SEED " + seed, x.then(1, 1, 0), gust ? 3 : 2);
+            Due.due("year(1, 1, 1) by SEED " + seed, x.year(1, 1, 1), gust ? 0 : 1);
+            x.hours(1);
+            Due.due("earned by SEED " + seed, x.count(8), gust ? 7 : 37);
+        }
     }
 
     private static void yearBySeeds() {

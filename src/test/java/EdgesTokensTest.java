@@ -15,6 +15,7 @@ public final class EdgesTokensTest {
         eachTelling();
         eachTellingCutShort();
         laws();
+        aLawOfAllTokens();
         numberedAsTheyStand();
         notTold();
         theLastOne();
@@ -105,6 +106,8 @@ public final class EdgesTokensTest {
         Due.says("NAMES are other ones by each letter of theirs");
         Due.fault("load abcdefgh 1 1 1;load abcdefgi 1 1 1;load bbcdefgh 1 1 1;load abcdefg 1 1 1;load a 1 1 1;load aa 1 1 1;", 0, -1);
         Due.fault("load abcdefgh 1 1 1;silk abcdefgh 1 1;", 3, 25);
+        Due.fault("load b 1 1 1;load bb 1 1 1;load bbb 1 1 1;load bbbbbbbb 1 1 1;load c 1 1 1;load ac 1 1 1;load ca 1 1 1;", 0, -1);
+        Due.fault("load z 1 1 1;load zz 1 1 1;load zzzzzzzz 1 1 1;load y 1 1 1;load az 1 1 1;load ba 1 1 1;load ay 1 1 1;", 0, -1);
     }
 
     private static void words() {
@@ -246,6 +249,23 @@ public final class EdgesTokensTest {
         Due.fault("lift=1/;", 1, 7);
     }
 
+    private static void aLawOfAllTokens() {
+        Due.says("a 401st TOKEN: with 400 a LAW is told as any other one");
+        for (String law : new String[] {"lift", "wind", "ties", "pays"}) {
+            int which = law.equals("lift") ? 0 : law.equals("wind") ? 1 : law.equals("ties") ? 2 : 3;
+            // 12 TOKENS for the two ahead, 2 and 1 about the LAW: it has 385 of 400.
+            SilkRise x = Due.with("load a 1 1 1;silk s 1 -1;" + law + "=" + "0+".repeat(192) + "2;");
+            Due.due(law + " of a long LAW", x.tells(0, 0, which), 2);
+            x = Due.with("load a 1 1 1;silk s 1 1;" + law + "=if 0<" + "0*".repeat(188) + "1 then 1 else 3;");
+            Due.due(law + " of a long if", x.tells(0, 0, which), 3);
+        }
+        SilkRise x = Due.with("load a 1 1 1;silk s 1 1;" + "ties=1;".repeat(88) + "lift=1+1;wind=1+1+1;pays=1+1+1+1;ties=5;");
+        int[] due = {2, 3, 5, 4};
+        for (int law = 0; law < 4; law++) {
+            Due.due("behind many, tells(0, 0, " + law + ")", x.tells(0, 0, law), due[law]);
+        }
+    }
+
     private static void numberedAsTheyStand() {
         Due.says("numbered each from 0 on as they stand");
         SilkRise x = Due.with("hook ha 1 0 1; load la 2 1 1; silk sa 3 0; load lb 4 1 1; hook hb 5 0 1; silk sb 6 0; load lc 7 1 1; load ld 8 1 1;"
@@ -278,6 +298,27 @@ public final class EdgesTokensTest {
         Due.due("by 5 to 10 high, 2 aside", x.flight(0, 0, 0, 2), 0);
         for (int hour = 0; hour < 100; hour++) {
             Due.due("no GUST", x.count(14), 0);
+            x.hours(1);
+        }
+        // What the text ahead told is not told.
+        x = Due.with("load b 1 1 1; lift=1; wind=1; ties=1; pays=1; rim 77; gusts 100; seed 9999;");
+        Due.due("read()", Due.read(x, "load a 3 4 77; silk s 9 2;"), 0);
+        int[] now = {5, 0, 4, 77};
+        for (int law = 0; law < 4; law++) {
+            Due.due("behind another text tells(0, 0, " + law + ")", x.tells(0, 0, law), now[law]);
+        }
+        Due.due("RIM", x.count(15), 10);
+        for (int hour = 0; hour < 20; hour++) {
+            Due.due("no GUST behind another text", x.count(14), 0);
+            x.hours(1);
+        }
+        x = Due.with("gusts 100; seed 9999;");
+        Due.due("read()", Due.read(x, "gusts 50;"), 0);
+        SilkRise none = Due.with("gusts 100; seed 38;");
+        Due.due("read()", Due.read(none, "seed 38;"), 0);
+        Due.due("GUSTS 0, LOT 0", none.count(14), 0);
+        for (int hour = 0; hour < 60; hour++) {
+            Due.due("SEED 0 behind another text, GUST in " + hour, x.count(14), ThingsTest.lot(0, 4 * hour) < 50 ? 1 : 0);
             x.hours(1);
         }
         // One that is told is so, the others are not.
